@@ -1299,7 +1299,9 @@ public final class WellMap {
     /**
      * Ways from corner to corner. The two corners part the map's rim in two; a way is barred by a
      * chain of wells from one part to the other, and passes it at its widest gap. All gaps are
-     * four times the square of the distance that can be kept in them.
+     * four times the square of the distance that can be kept in them. The corners themselves need
+     * no look: the sides that meet there are of different parts, and a well is nearer to both of
+     * them than to their corner.
      */
     private static final class Ways {
         private final Wells wells;
@@ -1314,7 +1316,7 @@ public final class WellMap {
         int widest(int from, int to) {
             int firstCorner = Math.min(from, to);
             int lastCorner = Math.max(from, to);
-            long best = Math.min(aroundCorner(from), aroundCorner(to));
+            long best = FAR;
             for (int k = 0; k < wells.many; k++) {
                 gap[k] = toRim(wells.counted[k], firstCorner, lastCorner, true);
             }
@@ -1371,18 +1373,6 @@ public final class WellMap {
                 default:
                     return wells.x[w];
             }
-        }
-
-        private long aroundCorner(int corner) {
-            int x = corner == 1 || corner == 2 ? wells.wide : 0;
-            int y = corner >= 2 ? wells.high : 0;
-            long least = FAR;
-            for (int k = 0; k < wells.many; k++) {
-                long across = wells.x[wells.counted[k]] - x;
-                long up = wells.y[wells.counted[k]] - y;
-                least = Math.min(least, 4 * (across * across + up * up));
-            }
-            return least;
         }
     }
 }

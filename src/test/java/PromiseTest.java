@@ -107,6 +107,9 @@ public final class PromiseTest {
         due("word", m.sink(1, 0, 2, 999999), 2);
         due("dry", m.sink(2, 0, 3, 0), 3);
         due("seasonal", m.sink(3, 0, 4, 15), 4);
+        due("the least numbers", m.sink(4, 0, 1, 0), 5);
+        due("the least word", m.sink(5, 0, 2, 0), 6);
+        due("the first season", m.sink(6, 0, 4, 1), 7);
         due("taken", m.sink(2, 0, 0, 0), -2);
         due("off to the left", m.sink(-1, 0, 0, 0), -1);
         due("below", m.sink(0, -1, 0, 0), -1);
@@ -124,13 +127,13 @@ public final class PromiseTest {
         due("no season", m.sink(9, 9, 4, 0), -1);
         due("season 16", m.sink(9, 9, 4, 16), -1);
         due("can't be goes before taken", m.sink(0, 0, 0, 1), -1);
-        due("five changes", m.count(2), 5);
+        due("eight changes", m.count(2), 8);
         m.fill(1);
         m.fill(3);
         due("least free", m.sink(50, 50, 0, 0), 1);
         due("then the other", m.sink(51, 50, 0, 0), 3);
-        due("then the end", m.sink(52, 50, 0, 0), 5);
-        for (int w = 6; w < 24; w++) due("more", m.sink(w, 60, 0, 0), w);
+        due("then the end", m.sink(52, 50, 0, 0), 8);
+        for (int w = 9; w < 24; w++) due("more", m.sink(w, 60, 0, 0), w);
         due("24", m.sink(9, 9, 0, 0), -3);
         due("taken goes before 24", m.sink(0, 0, 0, 0), -2);
         due("can't be goes before 24", m.sink(0, 0, 5, 0), -1);
@@ -239,6 +242,10 @@ public final class PromiseTest {
         due("left", m.serves(4, 5, 1), 1);
         due("right", m.serves(6, 5, 1), 2);
         due("both", m.serves(5, 0, 1), 3);
+        due("on the left side", m.serves(0, 7, 1), 1);
+        due("on the lower side", m.serves(17, 0, 2), 2);
+        due("up and down", with(10, 10, 5, 2, 5, 8).serves(9, 11, 2), 2);
+        due("down and up", with(10, 10, 5, 2, 5, 8).serves(19, 9, 2), 1);
         due("thousandths, left", m.serves(4999, 0, 1000), 1);
         due("thousandths, both", m.serves(5000, 0, 1000), 3);
         due("thousandths, right", m.serves(5001, 10000, 1000), 2);
@@ -394,6 +401,11 @@ public final class PromiseTest {
         WellMap f = with(10, 10, 0, 0, 3, 1, 1, 4);
         dueEnd(f, 0, 1, 0, 23, 22, 41, 22);
         dueEnd(f, 0, 1, 1, 5, 3, 0, 1);
+        WellMap upright = with(9, 9, 1, 2, 4, 2, 1, 7, 4, 7);
+        dueEnd(upright, 0, 1, 0, 5, 2, 0, 1);
+        dueEnd(upright, 0, 1, 1, 5, 2, 9, 2);
+        dueEnd(upright, 3, 2, 0, 5, 2, 9, 2);
+        dueEnd(upright, 3, 2, 1, 5, 2, 9, 1);
     }
 
     private static void promise17() {
@@ -446,6 +458,11 @@ public final class PromiseTest {
     private static void promise20() {
         WellMap m = with(1000, 1000, 0, 0, 3, 1, 1, 4);
         dueRound(m, 0, 23, 22, 41, 22, 1105, 242);
+        WellMap moved = with(1000, 1000, 100, 200, 103, 201, 101, 204, 600, 700);
+        dueRound(moved, 0, 2223, 22, 4441, 22, 1105, 242);
+        due("its wells", moved.ring(0), 7);
+        due("all rings", moved.rings(), 2);
+        due("the other ring", moved.ring(1), 2 + 4 + 8);
         due("what 6", m.round(0, 6), -1);
         due("what -1", m.round(0, -1), -1);
         due("k 1", m.round(1, 0), -1);
@@ -576,7 +593,10 @@ public final class PromiseTest {
         due("1 3", m.keep(1, 3), 4 * 50 * 50);
         due("itself", m.keep(1, 1), -1);
         due("4", m.keep(0, 4), -1);
+        due("4 first", m.keep(4, 0), -1);
         due("-1", m.keep(-1, 0), -1);
+        due("-1 last", m.keep(0, -1), -1);
+        due("most and least", m.keep(MOST, LEAST), -1);
         due("without", new WellMap().keep(0, 2), -1);
         WellMap chain = with(100, 100, 20, 50, 50, 50, 85, 50);
         due("through the widest gap of the chain", chain.keep(0, 3), 40 * 40);
@@ -677,7 +697,7 @@ public final class PromiseTest {
     private static void promise32() {
         WellMap m = new WellMap();
         due("nothing", m.undo(), -1);
-        m.sink(1, 1, 0, 0);
+        m.sink(11, 12, 0, 0);
         m.become(0, 2, 5);
         m.rectangle(50, 60);
         m.season(2);
@@ -691,6 +711,8 @@ public final class PromiseTest {
         due("lay again", m.undo(), 4);
         due("fill", m.undo(), 3);
         due("is back", m.ask(0, 1), 5);
+        due("is back at x", m.well(0, 0), 11);
+        due("is back at y", m.well(0, 1), 12);
         due("rectangle", m.undo(), 2);
         due("100 wide", m.serves(100, 100, 1), 1);
         due("become", m.undo(), 1);

@@ -2,15 +2,16 @@ import java.lang.management.ManagementFactory;
 import java.util.Random;
 
 /**
- * That calls make no objects, that a new object is small, and that no call throws for any arguments in any state
- * (an exception ends the test).
+ * That a run of calls keeps within its room, and that no call throws for any arguments in any state (an exception
+ * ends the test). The room is 7.3 million fields and elements for all calls of a run; it is told here in bytes.
  */
 public final class RoomTest {
     private static final int[] ODD = {Integer.MIN_VALUE, Integer.MIN_VALUE + 1, -1000001, -25, -2, -1, 0, 1, 2, 3, 4, 5, 6,
         7, 8, 9, 15, 16, 23, 24, 25, 31, 32, 100, 101, 999, 1000, 1001, 999999, 1000000, 1000001, 1 << 30,
         Integer.MAX_VALUE - 1, Integer.MAX_VALUE};
 
-    private static int wrong = 0;
+    private static final long ROOM = 4 * 7300000L;
+
     private static long sum = 0;
 
     private static final com.sun.management.ThreadMXBean THREADS =
@@ -73,29 +74,26 @@ public final class RoomTest {
         }
     }
 
-    private static void due(String what, long got, long most) {
-        if (got > most) {
-            wrong++;
-            System.out.println(what + ": " + got + " bytes, at most " + most);
+    /** Many wells, then every change followed by the questions that take most to answer: 512 calls in all. */
+    private static void dearestRun() {
+        WellMap m = new WellMap();
+        m.rectangle(1000, 1000);
+        for (int w = 0; w < 24; w++) m.sink(w * 7919 % 1001, w * 104729 % 1001, 0, 0);
+        for (int i = 0; i < 60; i++) {
+            int w = i % 24;
+            m.become(w, 1, i);
+            sum += m.rings() + m.largest(4) + m.tree() + m.hull() + m.keep(0, 2) + m.about(w);
+            sum += m.corners((w + 1) % 24);
         }
     }
 
     public static void main(String[] args) {
         for (long seed = 0; seed < 200; seed++) run(seed, 3000);
+        dearestRun();
         long before = made();
-        long nothing = made() - before;
-        before = made();
-        WellMap one = new WellMap();
-        long small = made() - before - nothing;
-        sum += one.count(0);
-        due("a new object", small, 40000);
-        Random dice = new Random(1);
-        before = made();
-        for (int i = 0; i < 100000; i++) {
-            if (dice.nextInt(3) == 0) change(one, dice); else question(one, dice);
-        }
-        due("its calls", made() - before - nothing, 2000);
-        System.out.println("a new object takes " + small + " bytes, calls none; the sum of all answers is " + sum);
-        if (wrong != 0) System.exit(1);
+        dearestRun();
+        long bytes = made() - before;
+        System.out.println("512 calls took " + bytes + " bytes of " + ROOM + "; the sum of all answers is " + sum);
+        if (bytes > ROOM) System.exit(1);
     }
 }
