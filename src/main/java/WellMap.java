@@ -426,6 +426,25 @@ public final class WellMap {
         return divisor == 0 ? bottom : bottom / divisor;
     }
 
+    private static long tellPoint(long x, long y, long over, int what) {
+        switch (what) {
+            case 0:
+                return above(x, over);
+            case 1:
+                return below(x, over);
+            case 2:
+                return above(y, over);
+            case 3:
+                return below(y, over);
+            default:
+                return NONE;
+        }
+    }
+
+    private static long tellSquare(long top, long bottom, int what) {
+        return what == 4 ? above(top, bottom) : below(top, bottom);
+    }
+
     /**
      * The order of a / b and c / d, none of them below 0. Their products across may not fit into
      * a long, so whole parts are compared, then what is left over, turned upside down.
@@ -828,18 +847,7 @@ public final class WellMap {
             if (i < 0 || i >= now.many) {
                 return NONE;
             }
-            switch (what) {
-                case 0:
-                    return above(now.x[i], 2 * now.d[i]);
-                case 1:
-                    return below(now.x[i], 2 * now.d[i]);
-                case 2:
-                    return above(now.y[i], 2 * now.d[i]);
-                case 3:
-                    return below(now.y[i], 2 * now.d[i]);
-                default:
-                    return NONE;
-            }
+            return tellPoint(now.x[i], now.y[i], 2 * now.d[i], what);
         }
 
         private void beginWithMap() {
@@ -1002,22 +1010,8 @@ public final class WellMap {
             long middleX = wells.x[firstWell[k]] * d[k] + across[k];
             long middleY = wells.y[firstWell[k]] * d[k] + up[k];
             long square = across[k] * across[k] + up[k] * up[k];
-            switch (what) {
-                case 0:
-                    return above(middleX, d[k]);
-                case 1:
-                    return below(middleX, d[k]);
-                case 2:
-                    return above(middleY, d[k]);
-                case 3:
-                    return below(middleY, d[k]);
-                case 4:
-                    return above(square, d[k] * d[k]);
-                case 5:
-                    return below(square, d[k] * d[k]);
-                default:
-                    return NONE;
-            }
+            boolean ofSquare = what == 4 || what == 5;
+            return ofSquare ? tellSquare(square, d[k] * d[k], what) : tellPoint(middleX, middleY, d[k], what);
         }
 
         private void look(int u, int v, int w) {
@@ -1108,22 +1102,8 @@ public final class WellMap {
             if (!found) {
                 return NONE;
             }
-            switch (what) {
-                case 0:
-                    return above(best.x[0], 2 * best.d[0]);
-                case 1:
-                    return below(best.x[0], 2 * best.d[0]);
-                case 2:
-                    return above(best.y[0], 2 * best.d[0]);
-                case 3:
-                    return below(best.y[0], 2 * best.d[0]);
-                case 4:
-                    return above(top, bottom);
-                case 5:
-                    return below(top, bottom);
-                default:
-                    return NONE;
-            }
+            boolean ofSquare = what == 4 || what == 5;
+            return ofSquare ? tellSquare(top, bottom, what) : tellPoint(best.x[0], best.y[0], 2 * best.d[0], what);
         }
 
         private void lookAt(Outline corners, int i, int w) {

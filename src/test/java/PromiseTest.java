@@ -57,6 +57,19 @@ public final class PromiseTest {
         due("0 101 is not", m.serves(0, 101, 1), -1);
         for (int w = 0; w < 24; w++) due("no well", m.well(w, 0), -1);
         due("NONE", WellMap.NONE, -1);
+        WellMap first = new WellMap();
+        due("corners before", first.corners(0), -1);
+        due("hull before", first.hull(), 0);
+        due("largest before", first.largest(4), -1);
+        first.sink(50, 50, 0, 0);
+        due("corners after", first.corners(0), 4);
+        due("hull after", first.hull(), 1);
+        due("largest after", first.largest(4), 5000);
+        WellMap fresh = new WellMap();
+        fresh.sink(50, 50, 0, 0);
+        due("corners at once", fresh.corners(0), 4);
+        due("hull at once", fresh.hull(), 1);
+        due("largest at once", fresh.largest(4), 5000);
     }
 
     private static void promise2() {
@@ -484,6 +497,11 @@ public final class PromiseTest {
         dueLargest(with(10, 10, 0, 0, 10, 0, 5, 10), 0, 1, 25, 4, 625, 16);
         dueLargest(with(10, 9, 0, 0, 10, 0, 0, 9, 10, 9, 1, 4, 9, 4), 5, 1, 37, 5, 689, 25);
         dueLargest(with(10, 10, 0, 0, 9, 0), 9, 2, 10, 1, 481, 4);
+        // Eight points are as far, and the first of them is at the last well.
+        dueLargest(with(30, 10, 25, 5, 15, 5, 5, 5), 0, 1, 0, 1, 50, 1);
+        dueLargest(with(30, 10, 5, 5, 25, 5, 15, 5), 0, 1, 0, 1, 50, 1);
+        dueLargest(with(10, 30, 5, 25, 5, 15, 5, 5), 0, 1, 0, 1, 50, 1);
+        dueLargest(with(30, 10, 27, 5, 18, 5, 9, 5, 0, 5, 0, 0, 30, 0), 9, 2, 10, 1, 181, 4);
         WellMap m = with(10, 10, 0, 0, 10, 10);
         dueLargest(m, 0, 1, 10, 1, 100, 1);
         m.become(0, 1, 1000);
