@@ -75,7 +75,8 @@ class Edges {
     }
 
     static void finish() {
-        System.out.println(wrong == 0 ? tests + " clauses hold" : wrong + " answers are not as due");
+        if (tests > 0 && wrong == 0) System.out.println(tests + " clauses hold");
+        if (wrong > 0) System.out.println(wrong + " answers are not as due");
         if (wrong != 0) System.exit(1);
     }
 
