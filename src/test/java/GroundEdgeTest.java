@@ -299,6 +299,7 @@ public final class GroundEdgeTest extends Edges {
         due("1 0", border(m, 1, 0), "23/22 41/22, 5/3 0");
         due("0 2", border(m, 0, 2), "0 17/8, 23/22 41/22");
         due("a point", border(fourCorners(), 1, 2), "5 5");
+        due("asked at once", fourCorners().end(0, 1, 1, 2), 5);
         due("of a point the second", fourCorners().end(1, 2, 1, 0), -1);
         due("of nothing the first", map(10, 10, 0, 5, 5, 5, 10, 5).end(0, 2, 0, 0), -1);
     }

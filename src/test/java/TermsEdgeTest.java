@@ -513,6 +513,8 @@ public final class TermsEdgeTest extends Edges {
         due("on a side", largest(map(10, 1, 0, 0, 10, 0)), "5 1 by 26");
         due("in a flat map", largest(map(10, 1, 0, 0, 10, 0, 0, 1, 10, 1)), "5 1/2 by 101/4");
         due("within", largest(map(10, 10, 0, 0, 10, 0, 0, 10, 10, 10)), "5 5 by 50");
+        due("farther by less than one than 0 6 is, 25", largest(map(6, 6, 6, 6, 0, 1, 6, 1)), "11/12 6 by 3721/144");
+        due("farther by less than one than 0 9/4 is, 225/16", largest(map(6, 6, 0, 6, 5, 6, 3, 0)), "6 7/3 by 130/9");
         WellMap m = map(10, 10, 0, 0, 10, 10);
         m.become(1, 3, 0);
         due("a dry one is none", largest(m), "10 10 by 200");
@@ -612,6 +614,7 @@ public final class TermsEdgeTest extends Edges {
 
     private static void greatestOfLeast() {
         due("between two wells", map(4, 10, 0, 5, 4, 6).keep(0, 3), 17);
+        due("between two wells on two sides", map(6, 6, 5, 6, 0, 1).keep(1, 3), 50);
         due("all around the well", map(10, 10, 3, 5).keep(0, 3), 4 * 5 * 5);
         due("the wider gap", map(10, 10, 3, 5).keep(0, 2), 4 * 5 * 5);
         due("well on a side, way to the other side", map(10, 10, 0, 5).keep(0, 3), 4 * 5 * 5);
