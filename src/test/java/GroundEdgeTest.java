@@ -225,6 +225,15 @@ public final class GroundEdgeTest extends Edges {
         due("of a piece the second", piece.corner(1, 1, 0), 10);
         due("of a piece the third", piece.corner(1, 2, 0), -1);
         due("none at all", new WellMap().corner(0, 0, 0), -1);
+        WellMap[] some = {fourCorners(), map(36, 36, roundOf24()), mostCorners(), map(10, 10, 10, 10, 0, 0, 9, 1)};
+        for (WellMap one : some) {
+            for (int w = 0; w < one.count(0); w++) {
+                int n = one.corners(w);
+                due("the last of " + w, n == 0 || one.corner(w, n - 1, 3) > 0, true);
+                due("before the first of " + w, one.corner(w, -1, 3), -1);
+                due("after the last of " + w, one.corner(w, n, 3), -1);
+            }
+        }
     }
 
     // ---- 14
