@@ -359,6 +359,27 @@ public final class TermsEdgeTest extends Edges {
         due("nothing amid all", ground(slant, 1), "");
     }
 
+    /** A piece that one more border cuts hardly before its end, at its end, and hardly beyond it. */
+    private static void pieceCutAtItsEnd() {
+        WellMap rim = map(10, 10, 5, 0, 5, 10, 0, 5);
+        rim.become(0, 1, 100);
+        rim.become(2, 1, 99);
+        due("hardly more than its end", ground(rim, 1), "99/10 10, 10 10");
+        rim.become(2, 1, 100);
+        due("its end", ground(rim, 1), "10 10");
+        rim.become(2, 1, 101);
+        due("less than its end", ground(rim, 1), "");
+        WellMap inner = map(20, 10, 0, 5, 10, 5, 20, 5, 0, 0);
+        inner.become(0, 1, 100);
+        inner.become(2, 1, 100);
+        inner.become(3, 1, 174);
+        due("hardly more than its upper end", ground(inner, 1), "10 99/10, 10 10");
+        inner.become(3, 1, 175);
+        due("its upper end", ground(inner, 1), "10 10");
+        inner.become(3, 1, 176);
+        due("less than its upper end", ground(inner, 1), "");
+    }
+
     private static void emptyGrounds() {
         WellMap m = map(1000, 1000, 500, 500, 501, 500);
         m.become(0, 1, 1000000);
@@ -727,6 +748,7 @@ public final class TermsEdgeTest extends Edges {
         clause(0, "the one with the least x (of several the least y) first", TermsEdgeTest::whichFirst);
         clause(0, "then so that the GROUND is on the left", TermsEdgeTest::onTheLeft);
         clause(0, "A GROUND that is a point, or a piece of a line, has one CORNER, or two (its ends)", TermsEdgeTest::pointsAndPieces);
+        clause(0, "or a piece of a line, has one CORNER, or two", TermsEdgeTest::pieceCutAtItsEnd);
         clause(0, "an empty one none", TermsEdgeTest::emptyGrounds);
         clause(0, "BORDER of two WELLS: what their GROUNDS share", TermsEdgeTest::whatTheyShare);
         clause(0, "they are BESIDE each other if that is more than a point", TermsEdgeTest::besideEachOther);
