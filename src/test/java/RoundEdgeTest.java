@@ -88,9 +88,9 @@ public final class RoundEdgeTest extends Edges {
         due("the third", round(five(), 2), "10 5 by 25");
         due("the last", round(five(), 3), "5 10 by 25");
         due("the smallest", round(map(1, 1, 0, 0, 1, 0, 0, 1), 0), "1/2 1/2 by 1/2");
-        due("the largest", round(map(1000, 1000, 0, 0, 997, 999, 498, 499), 0),
+        due("very large", round(map(1000, 1000, 0, 0, 997, 999, 498, 499), 0),
                 "497504995/2 -496506995/2 by 247015208066940025/2");
-        due("the largest, turned", round(map(1000, 1000, 498, 499, 997, 999, 0, 0), 0),
+        due("very large, turned", round(map(1000, 1000, 498, 499, 997, 999, 0, 0), 0),
                 "497504995/2 -496506995/2 by 247015208066940025/2");
         due("to the upper left", round(map(1000, 1000, 0, 0, 999, 997, 499, 498), 0),
                 "-496506995/2 497504995/2 by 247015208066940025/2");
